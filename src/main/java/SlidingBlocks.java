@@ -21,6 +21,7 @@ public final class SlidingBlocks {
     private static final int MOST_STATES = 2000;
 
     private static final int DIRECTIONS = 4;
+    private static final int ALL_DIRECTIONS = 15;
     private static final int UP = 0;
     private static final int RIGHT = 1;
     private static final int DOWN = 2;
@@ -137,7 +138,7 @@ public final class SlidingBlocks {
             case 3:
                 return at(board.high, block);
             case 4:
-                return board.directions(board.cellsOf(block), board.othersOf(block));
+                return board.directionsOf(block);
             case 5:
                 return reach.spread(board, block);
             case 6:
@@ -151,8 +152,7 @@ public final class SlidingBlocks {
         if (!board.has(block) || direction < 0 || direction >= DIRECTIONS) {
             return BAD;
         }
-        int possible = board.directions(board.cellsOf(block), board.othersOf(block));
-        if ((possible >> direction & 1) == 0) {
+        if ((board.directionsOf(block) >> direction & 1) == 0) {
             return STATE;
         }
         history.keep(board);
@@ -204,10 +204,11 @@ public final class SlidingBlocks {
     }
 
     public int hint(boolean slides) {
-        int here = distance(slides);
-        if (here < 0) {
-            return here;
+        int greatest = greatest(space, NONE, slides);
+        if (greatest < 0) {
+            return greatest;
         }
+        int here = space.farOf(board.key(NONE), slides);
         for (int block = 0; here > 0 && block < board.count; block++) {
             int place = nearerPlace(block, slides, here - 1);
             if (place >= 0) {
@@ -352,7 +353,7 @@ public final class SlidingBlocks {
     }
 
     private static int placeIn(long key, int block) {
-        return (int) (key >>> keyShift(block)) & PLACE_MASK;
+        return (int) (key >>> (PLACE_BITS * (MOST_BLOCKS - 1 - block))) & PLACE_MASK;
     }
 
     /** The buffer, and the reading of its text. */
@@ -496,7 +497,10 @@ public final class SlidingBlocks {
         int height;
         int walls;
         int count;
-        final int[] edges = new int[DIRECTIONS];
+        int topRow;
+        int rightColumn;
+        int bottomRow;
+        int leftColumn;
         final int[] shapes = new int[MOST_BLOCKS];
         final int[] wide = new int[MOST_BLOCKS];
         final int[] high = new int[MOST_BLOCKS];
@@ -517,7 +521,10 @@ public final class SlidingBlocks {
             height = other.height;
             walls = other.walls;
             count = other.count;
-            copyRow(other.edges, edges);
+            topRow = other.topRow;
+            rightColumn = other.rightColumn;
+            bottomRow = other.bottomRow;
+            leftColumn = other.leftColumn;
             copyRow(other.shapes, shapes);
             copyRow(other.wide, wide);
             copyRow(other.high, high);
@@ -537,15 +544,13 @@ public final class SlidingBlocks {
             goalBlock = NONE;
             goalPlace = NONE;
             forgetMoves();
-            int top = (1 << width) - 1;
-            int leftColumn = 0;
+            topRow = (1 << width) - 1;
+            bottomRow = topRow << ((height - 1) * width);
+            leftColumn = 0;
             for (int y = 0; y < height; y++) {
                 leftColumn |= 1 << (y * width);
             }
-            put(edges, UP, top);
-            put(edges, RIGHT, leftColumn << (width - 1));
-            put(edges, DOWN, top << ((height - 1) * width));
-            put(edges, LEFT, leftColumn);
+            rightColumn = leftColumn << (width - 1);
         }
 
         void forgetMoves() {
@@ -580,8 +585,8 @@ public final class SlidingBlocks {
         boolean isJoined(int cells) {
             int grown = cells & -cells;
             for (int i = 0; i < MOST_CELLS; i++) {
-                int right = (grown & ~at(edges, RIGHT)) << 1;
-                int left = (grown & ~at(edges, LEFT)) >>> 1;
+                int right = (grown & ~rightColumn) << 1;
+                int left = (grown & ~leftColumn) >>> 1;
                 grown = (grown | right | left | grown << width | grown >>> width) & cells;
             }
             return grown == cells;
@@ -618,10 +623,6 @@ public final class SlidingBlocks {
             return set;
         }
 
-        int othersOf(int block) {
-            return taken() & ~cellsOf(block);
-        }
-
         int firstAlike(int block) {
             // rows are as long as the frame's in every shape, so equal sets are equal shapes
             for (int other = 0; other < block; other++) {
@@ -648,19 +649,24 @@ public final class SlidingBlocks {
         /** The set of the directions in which a block on these cells can step among the others. */
         int directions(int cells, int others) {
             int set = 0;
-            if ((cells & at(edges, UP)) == 0 && (cells >>> width & others) == 0) {
+            if ((cells & topRow) == 0 && (cells >>> width & others) == 0) {
                 set |= 1 << UP;
             }
-            if ((cells & at(edges, RIGHT)) == 0 && (cells << 1 & others) == 0) {
+            if ((cells & rightColumn) == 0 && (cells << 1 & others) == 0) {
                 set |= 1 << RIGHT;
             }
-            if ((cells & at(edges, DOWN)) == 0 && (cells << width & others) == 0) {
+            if ((cells & bottomRow) == 0 && (cells << width & others) == 0) {
                 set |= 1 << DOWN;
             }
-            if ((cells & at(edges, LEFT)) == 0 && (cells >>> 1 & others) == 0) {
+            if ((cells & leftColumn) == 0 && (cells >>> 1 & others) == 0) {
                 set |= 1 << LEFT;
             }
             return set;
+        }
+
+        int directionsOf(int block) {
+            int cells = cellsOf(block);
+            return directions(cells, taken() & ~cells);
         }
 
         void move(int block, int place, int least, boolean isSlide) {
@@ -743,8 +749,8 @@ public final class SlidingBlocks {
 
         /** Fills far, -1 where the block cannot come; answers the number of other places. */
         int spread(Board board, int block) {
-            int others = board.othersOf(block);
             int shape = at(board.shapes, block);
+            int others = board.taken() & ~board.cellsOf(block);
             int start = at(board.spots, block);
             Arrays.fill(far, -1);
             put(far, start, 0);
@@ -821,11 +827,16 @@ public final class SlidingBlocks {
             int taken = takenIn(board, key);
             int possible = 0;
             for (int block = 0; block < board.count; block++) {
-                if (block != removed) {
-                    int cells = at(board.shapes, block) << placeIn(key, block);
-                    int set = board.directions(cells, taken & ~cells);
-                    possible |= set << (DIRECTIONS * block);
-                    addSteps(board, key, block, set);
+                if (block == removed) {
+                    continue;
+                }
+                int cells = at(board.shapes, block) << placeIn(key, block);
+                int set = board.directions(cells, taken & ~cells);
+                possible |= set << (DIRECTIONS * block);
+                for (int direction = 0; direction < DIRECTIONS; direction++) {
+                    if ((set >> direction & 1) != 0) {
+                        add(key + ((long) board.offset(direction) << keyShift(block)));
+                    }
                 }
             }
             put(steps, state, possible);
@@ -839,14 +850,6 @@ public final class SlidingBlocks {
                 }
             }
             return taken;
-        }
-
-        private void addSteps(Board board, long key, int block, int set) {
-            for (int direction = 0; direction < DIRECTIONS; direction++) {
-                if ((set >> direction & 1) != 0) {
-                    add(key + ((long) board.offset(direction) << keyShift(block)));
-                }
-            }
         }
 
         private void add(long key) {
@@ -874,6 +877,10 @@ public final class SlidingBlocks {
                 slot = (slot + 1) & (SLOTS - 1);
             }
             return slot;
+        }
+
+        boolean canMove(int state, int block) {
+            return (at(steps, state) >> (DIRECTIONS * block) & ALL_DIRECTIONS) != 0;
         }
 
         /** The state after a step, or -1 if it is not possible. */
@@ -956,6 +963,9 @@ public final class SlidingBlocks {
             for (int head = 0; head < found && head < MOST_STATES; head++) {
                 int state = at(scratch.queue, head);
                 for (int block = 0; block < board.count; block++) {
+                    if (!space.canMove(state, block)) {
+                        continue;
+                    }
                     if (slides) {
                         slideFrom(board, space, state, block);
                     } else {
