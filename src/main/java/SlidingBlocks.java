@@ -950,7 +950,6 @@ public final class SlidingBlocks {
 
         void forget() {
             goalBlock = NONE;
-            goalPlace = NONE;
         }
 
         void measure(Board board, Space space) {

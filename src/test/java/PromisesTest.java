@@ -7,8 +7,9 @@ public final class PromisesTest {
 
     /** Four single blocks around a wall of two cells; 840 states. */
     private static final String RING = "a..b/.##./c..d";
-    /** Exactly 2000 states, and 2002. */
+    /** Exactly 2000 states, 2001 (667 on one side of the walls, 3 on the other), and 2002. */
     private static final String MOST = "....#./#....b/..#..b/#ccd..";
+    private static final String ONE_TOO_MANY = ".acc#h/.d.#../.d####/..bb..";
     private static final String TOO_MANY = ".a./.a./#.b/..#/c../...";
 
     private PromisesTest() {
@@ -119,6 +120,7 @@ public final class PromisesTest {
         faultAt("aab/cbc/d.d", 2);
         faultAt("aab/ccb/d.d", 8);
         faultAt("bab/aaa/b..", 0);
+        faultAt("./a/./a", 2);
         faultAt("ab/ba/", 6);
         faultAt("..a.../a.....", 2);
         faultAt(".....a/a.....", 5);
@@ -330,6 +332,7 @@ public final class PromisesTest {
         Check.due("11: like blocks are told apart", Start.with("ab./...").states(), 30);
         Check.due("11: shut off", Start.with("ab../####").states(), 6);
         Check.due("11: 2000 are not too many", Start.with(MOST).states(), 2000);
+        Check.due("11: 2001 are", Start.with(ONE_TOO_MANY).states(), FULL);
         Check.due("11: 2002 are", Start.with(TOO_MANY).states(), FULL);
         Check.due("11: many more are", Start.with("abcd../....../....../......").states(), FULL);
         SlidingBlocks x = Start.with(RING);
@@ -399,6 +402,13 @@ public final class PromisesTest {
         Check.due("14: a slide goes all the way", way.hint(true), 2);
         way.goal(0, 4);
         Check.due("14: solved", way.hint(false), NONE);
+        SlidingBlocks zero = Start.with(".a");
+        zero.goal(0, 0);
+        Check.due("14: block 0 to the place 0", zero.hint(true), 0);
+        Check.due("15: follow() with the hint 0", zero.follow(true), 0);
+        SlidingBlocks fixed = Start.with("a");
+        fixed.goal(0, 0);
+        Check.due("14: solved without another state", fixed.hint(true), NONE);
         SlidingBlocks two = Start.with("ab./...");
         two.goal(1, 0);
         Check.due("14: the smaller block of two", two.hint(false), 3);
@@ -490,6 +500,10 @@ public final class PromisesTest {
         two.hardest(true);
         Check.due("17: block 0 first", two.block(0, 0), 0);
         Check.due("17: then block 1", two.block(1, 0), 3);
+        SlidingBlocks fixed = Start.with("a");
+        fixed.goal(0, 0);
+        Check.due("17: solved in all states", fixed.hardest(true), 0);
+        Check.due("17: an act, though nothing moved", fixed.undo(), 2);
         SlidingBlocks never = Start.with("a#./.#.");
         never.goal(0, 2);
         Check.due("17: never", never.hardest(true), STATE);

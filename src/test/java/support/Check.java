@@ -1,5 +1,6 @@
 /** Counts the answers that are not as due, and ends the program with 1 if there are any. */
 final class Check {
+    private static final int MOST_TOLD = 40;
     private static int looked = 0;
     private static int wrong = 0;
 
@@ -7,21 +8,19 @@ final class Check {
     }
 
     static void due(String call, long got, long want) {
-        looked++;
-        if (got != want) {
-            wrong++;
-            if (wrong <= 40) {
-                System.out.println(call + " answered " + got + ", due is " + want);
-            }
-        }
+        count(got == want, call + " answered " + got + ", due is " + want);
     }
 
     static void dueFloat(String call, float got, float want) {
+        count(got == want, call + " answered " + got + ", due is " + want);
+    }
+
+    private static void count(boolean right, String story) {
         looked++;
-        if (got != want) {
+        if (!right) {
             wrong++;
-            if (wrong <= 40) {
-                System.out.println(call + " answered " + got + ", due is " + want);
+            if (wrong <= MOST_TOLD) {
+                System.out.println(story);
             }
         }
     }
