@@ -9,10 +9,22 @@ final class Start {
         }
     }
 
+    /** Reads the text and nothing that was in the buffer before. */
+    static int read(SlidingBlocks x, String text) {
+        x.clear();
+        type(x, text);
+        return x.read();
+    }
+
     static SlidingBlocks with(String text) {
         SlidingBlocks x = new SlidingBlocks();
-        type(x, text);
-        x.read();
+        read(x, text);
+        return x;
+    }
+
+    static SlidingBlocks with(String text, int goalBlock, int goalPlace) {
+        SlidingBlocks x = with(text);
+        x.goal(goalBlock, goalPlace);
         return x;
     }
 }
