@@ -29,7 +29,6 @@ public final class FaceTest {
     public static void main(String[] args) throws Exception {
         face();
         constants();
-        namesOfPrivateMethods();
         room();
         noNewObjects();
         wrongArguments();
@@ -62,18 +61,6 @@ public final class FaceTest {
             open += Modifier.isPrivate(field.getModifiers()) ? 0 : 1;
         }
         Check.due("fields that are not private", open, 4);
-    }
-
-    private static void namesOfPrivateMethods() {
-        Set<String> names = new TreeSet<>();
-        for (String method : METHODS) {
-            names.add(method.substring(method.indexOf(' ') + 1, method.indexOf('(')));
-        }
-        for (Class<?> inside : SlidingBlocks.class.getDeclaredClasses()) {
-            for (Method method : inside.getDeclaredMethods()) {
-                Check.due(method.toString(), names.contains(method.getName()) ? 1 : 0, 0);
-            }
-        }
     }
 
     private static void room() throws Exception {

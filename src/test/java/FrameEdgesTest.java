@@ -42,6 +42,7 @@ public final class FrameEdgesTest {
         readAnswersBlocks();
         readForgets();
         readAndTheBuffer();
+        readOneAfterAnother();
         frameNumbers();
         frameOutside();
         cellsOutside();
@@ -126,6 +127,9 @@ public final class FrameEdgesTest {
         Check.due("FRAME: upright, column 0, row 3", y.cell(12), WALL);
         Check.due("FRAME: upright, column 0, row 5", y.cell(20), 2);
         Check.due("FRAME: upright, column 3, row 5", y.cell(23), 3);
+        Check.due("FRAME: upright, the block in the last row", y.block(3, 0), 23);
+        Check.due("FRAME: one column, the block in the last row", Start.with("././././a/a").block(0, 0), 4);
+        Check.due("FRAME: one row, the block in the last column", Start.with("....aa").block(0, 0), 4);
     }
 
     /** FRAME: "There are at most 7 blocks". */
@@ -489,6 +493,25 @@ public final class FrameEdgesTest {
         Check.due("4: nothing to clear", x.clear(), 0);
         Check.due("4: the frame stays", x.frame(0), 2);
         Check.due("4: one act", x.undo(), 0);
+    }
+
+    /** Promise 4: "Makes the text the frame", whatever was read before, with a fault or without. */
+    private static void readOneAfterAnother() {
+        String[] texts = {"a", "...../.aaa./.aba./.aaa.", "a.../a.b#/aabb", "ab/..", "a.a/###", "##/##/.a", "ab.a/ba..",
+            "....../..a.../....../......", "./a/./b/./.", "abcdef/g.....", "abcdef/gh....", "a..b", "..", "a./.a"};
+        for (String first : texts) {
+            for (String second : texts) {
+                SlidingBlocks x = new SlidingBlocks();
+                Start.read(x, first);
+                int got = Start.read(x, second);
+                SlidingBlocks y = new SlidingBlocks();
+                Start.read(y, first);
+                SlidingBlocks alone = new SlidingBlocks();
+                Check.due("4: " + first + " then " + second, got, Start.read(alone, second));
+                SlidingBlocks due = got < 0 ? y : alone;
+                Check.due("4: all of " + first + " then " + second, x.fingerprint(), due.fingerprint());
+            }
+        }
     }
 
     /** Promise 5: each number at its least and at its greatest. */

@@ -425,6 +425,13 @@ public final class StatesEdgesTest {
         SlidingBlocks all = Start.with("a", 0, 0);
         Check.due("17: the distance 0", all.hardest(true), 0);
         Check.due("17: an act that leaves all", all.undo(), 2);
+        SlidingBlocks stays = Start.with("#a#b", 1, 3);
+        Check.due("17: the distance 0 away from the place 0", stays.hardest(false), 0);
+        Check.due("17: block 0 stays", stays.block(0, 0), 1);
+        Check.due("17: block 1 stays", stays.block(1, 0), 3);
+        SlidingBlocks first = Start.with("#.a#b", 1, 4);
+        Check.due("17: the distance 0 of all states", first.hardest(true), 0);
+        Check.due("17: the first of them", first.block(0, 0), 1);
     }
 
     /** Promise 17: "STATE if worst() would return an error or NONE". */
