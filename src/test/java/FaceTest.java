@@ -1,14 +1,13 @@
-import java.lang.reflect.Array;
+import java.lang.management.ManagementFactory;
 import java.lang.reflect.Constructor;
 import java.lang.reflect.Field;
 import java.lang.reflect.Method;
 import java.lang.reflect.Modifier;
-import java.util.ArrayDeque;
 import java.util.Arrays;
-import java.util.Collections;
-import java.util.IdentityHashMap;
+import java.util.List;
 import java.util.Set;
 import java.util.TreeSet;
+import java.util.function.ToDoubleFunction;
 
 /** The face of the class, the room that an object takes, and wrong arguments of every kind. */
 public final class FaceTest {
@@ -20,17 +19,19 @@ public final class FaceTest {
         "int places(int)", "int without(int,boolean)", "int undo()", "long fingerprint()",
     };
     private static final int BAD_DUE = SlidingBlocks.BAD;
-    private static final int MOST_FIELDS = 40_000;
-    private static final int MOST_OBJECTS = 200;
+    private static final com.sun.management.ThreadMXBean THREADS =
+        (com.sun.management.ThreadMXBean) ManagementFactory.getThreadMXBean();
+    private static final int MOST_CALLS = 512;
+    /** 7.3 million fields and elements, of four bytes at least. */
+    private static final long ROOM = 7_300_000L * 4;
 
     private FaceTest() {
     }
 
-    public static void main(String[] args) throws Exception {
+    public static void main(String[] args) {
         face();
         constants();
         room();
-        noNewObjects();
         wrongArguments();
         manyReadings();
         Check.end();
@@ -63,70 +64,49 @@ public final class FaceTest {
         Check.due("fields that are not private", open, 4);
     }
 
-    private static void room() throws Exception {
-        int objects = 0;
-        int fields = 0;
-        Set<Object> seen = Collections.newSetFromMap(new IdentityHashMap<>());
-        ArrayDeque<Object> queue = new ArrayDeque<>();
-        queue.add(new SlidingBlocks());
-        while (!queue.isEmpty()) {
-            Object object = queue.remove();
-            if (!seen.add(object)) {
-                continue;
-            }
-            objects++;
-            if (object.getClass().isArray()) {
-                fields += Array.getLength(object);
-                boolean numbers = object.getClass().getComponentType().isPrimitive();
-                for (int i = 0; !numbers && i < Array.getLength(object); i++) {
-                    queue.add(Array.get(object, i));
-                }
-                continue;
-            }
-            for (Field field : object.getClass().getDeclaredFields()) {
-                if (Modifier.isStatic(field.getModifiers())) {
-                    continue;
-                }
-                fields++;
-                if (!field.getType().isPrimitive()) {
-                    field.setAccessible(true);
-                    queue.add(field.get(object));
-                }
-            }
+    /**
+     * All calls of one run live in one room that is never given back: what the constructor makes, and
+     * what 512 of the dearest call make, must have room in it.
+     */
+    private static void room() {
+        long made = Long.MAX_VALUE;
+        for (int round = 0; round < 5; round++) {
+            long before = bytes();
+            SlidingBlocks x = new SlidingBlocks();
+            made = Math.min(made, bytes() - before);
+            Check.due("a new object", x.frame(0), 1);
         }
-        System.out.println("a new object takes " + objects + " objects with " + fields + " fields and elements");
-        Check.due("few objects", objects <= MOST_OBJECTS ? 1 : 0, 1);
-        Check.due("few fields", fields <= MOST_FIELDS ? 1 : 0, 1);
+        long dearest = 0;
+        for (ToDoubleFunction<SlidingBlocks> call : calls()) {
+            dearest = Math.max(dearest, leastBytes(call));
+        }
+        System.out.println("a new object takes " + made + " bytes, the dearest call " + dearest);
+        Check.due("room for all calls of a run", made + MOST_CALLS * dearest <= ROOM ? 1 : 0, 1);
     }
 
-    /** Whatever is called, the rows made in the constructor must do: the room is never given back. */
-    private static void noNewObjects() {
-        com.sun.management.ThreadMXBean threads =
-            (com.sun.management.ThreadMXBean) java.lang.management.ManagementFactory.getThreadMXBean();
-        SlidingBlocks x = new SlidingBlocks();
-        char[] text = "a..b/.##./c..d".toCharArray();
+    /** The machine makes objects of its own when a call is made for the first time: so the least of a few. */
+    private static long leastBytes(ToDoubleFunction<SlidingBlocks> call) {
         long least = Long.MAX_VALUE;
         for (int round = 0; round < 5; round++) {
-            long before = threads.getCurrentThreadAllocatedBytes();
-            everyCall(x, text);
-            least = Math.min(least, threads.getCurrentThreadAllocatedBytes() - before);
+            SlidingBlocks x = Start.with("....#./#....b/..#..b/#ccd..", 2, 5);
+            Start.type(x, "a..b/.##./c..d");
+            long before = bytes();
+            call.applyAsDouble(x);
+            least = Math.min(least, bytes() - before);
         }
-        Check.due("bytes of new objects, small", least < 1000 ? 1 : 0, 1);
+        return least;
     }
 
-    private static long everyCall(SlidingBlocks x, char[] text) {
-        long sum = 0;
-        x.clear();
-        for (char c : text) {
-            sum += x.type(c);
-        }
-        sum += x.read() + x.goal(0, 11) + x.states() + x.solved() + x.step(0, 1) + x.slide(0, 2);
-        for (int slides = 0; slides < 2; slides++) {
-            boolean s = slides == 1;
-            sum += x.distance(s) + x.hint(s) + x.follow(s) + x.worst(s) + x.without(1, s);
-            sum += (long) x.mean(s) + x.hardest(s);
-        }
-        return sum + x.places(0) + x.fingerprint() + x.undo();
+    private static long bytes() {
+        return THREADS.getCurrentThreadAllocatedBytes();
+    }
+
+    private static List<ToDoubleFunction<SlidingBlocks>> calls() {
+        return List.of(x -> x.type('a'), x -> x.clear(), x -> x.read(), x -> x.frame(3), x -> x.cell(3),
+            x -> x.block(0, 5), x -> x.step(2, 1), x -> x.slide(2, 5), x -> x.goal(1, 0), x -> x.states(),
+            x -> x.solved(), x -> x.distance(true), x -> x.hint(true), x -> x.follow(true), x -> x.follow(false),
+            x -> x.worst(false), x -> x.hardest(true), x -> x.mean(true), x -> x.places(0), x -> x.without(0, true),
+            x -> x.undo(), x -> x.fingerprint());
     }
 
     private static void wrongArguments() {
